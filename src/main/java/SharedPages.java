@@ -791,8 +791,9 @@ public final class SharedPages {
         }
 
         private void write(String text) {
-            for (int k = 0; k < text.length(); k++) {
-                writeCharacter(text.charAt(k));
+            for (int k = 0; k < text.length() && count < SHOWN_LIMIT; k++) {
+                codes[count] = text.charAt(k);
+                count++;
             }
         }
 

@@ -207,17 +207,25 @@ final class ModelTest {
     }
 
     private void journal() {
-        int k = pick(14) - 1;
-        due("cut(" + k + ")", real.cut(k), model.cut(k));
+        cut(pick(14) - 1);
         int page = pick(6);
         save(page, Math.max(0, model.latest(page)));
         int tries = pick(4);
         for (int t = 0; t < tries; t++) {
             int n = pick(8) - 1;
             due("recover(" + n + ")", real.recover(n), model.recover(n));
+            if (pick(4) == 0) {
+                cut(pick(14) - 1);
+            }
         }
         look(page);
-        due("recover(20)", real.recover(20), model.recover(20));
+        if (pick(4) > 0) {
+            due("recover(20)", real.recover(20), model.recover(20));
+        }
+    }
+
+    private void cut(int k) {
+        due("cut(" + k + ")", real.cut(k), model.cut(k));
     }
 
     private void look(int page) {
