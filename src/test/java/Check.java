@@ -1,6 +1,12 @@
-/** Counts and prints the answers that are not as due, and ends a test. */
+/** Counts and prints the answers that are not as due, each with the sentence it breaks, and ends a test. */
 final class Check {
+    private String sentence = "the document";
     private int wrong;
+
+    /** What is wrong from here on breaks this sentence of the document. */
+    void about(String told) {
+        sentence = told;
+    }
 
     void equal(String what, long got, long due) {
         if (got != due) {
@@ -33,7 +39,7 @@ final class Check {
 
     private void tell(String message) {
         wrong++;
-        System.out.println(message);
+        System.out.println("[" + sentence + "] " + visible(message));
     }
 
     private static String visible(String text) {

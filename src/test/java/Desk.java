@@ -6,6 +6,12 @@ final class Desk {
     static final int D = 3;
     static final int E = 4;
     static final int F = 5;
+    static final int PAGES = 6;
+
+    /** Numbers that are no page's, also if bits are lost, a rest is taken or a letter is meant. */
+    static final int[] NO_PAGES = {
+        -1, 6, 7, -2, -5, -6, -7, 12, 24, 31, 32, 37, 64, 65, 70, 255, 256, 261, 65536, 1 << 30,
+        Integer.MIN_VALUE, Integer.MIN_VALUE + 5, Integer.MAX_VALUE};
 
     private Desk() {
     }
@@ -19,7 +25,8 @@ final class Desk {
 
     static String draft(SharedPages x) {
         StringBuilder text = new StringBuilder();
-        for (int k = 0; k < x.length(); k++) {
+        int count = x.length();
+        for (int k = 0; k < count; k++) {
             text.append((char) x.at(k));
         }
         return text.toString();
@@ -35,16 +42,30 @@ final class Desk {
         return x.save(page, base);
     }
 
+    /** Saves the draft over the latest revision this many times. */
+    static void saveAgain(SharedPages x, int page, int times) {
+        int latest = x.latest(page);
+        for (int k = 0; k < times; k++) {
+            x.save(page, latest + k);
+        }
+    }
+
     static String text(SharedPages x, int page, int revision) {
         x.load(page, revision);
         return draft(x);
     }
 
     static String shown(SharedPages x, int page) {
-        int count = x.show(page);
+        x.show(page);
+        return screen(x);
+    }
+
+    static String screen(SharedPages x) {
         StringBuilder text = new StringBuilder();
-        for (int k = 0; k < count; k++) {
-            text.append((char) x.shown(k));
+        int code = x.shown(0);
+        for (int k = 1; k <= 200 && code >= 0; k++) {
+            text.append((char) code);
+            code = x.shown(k);
         }
         return text.toString();
     }

@@ -1,323 +1,442 @@
-/** Promises 1 and 8 to 14: revisions, their forms and sizes (merging is in MergeTest). */
+/** Promises 1 and 8 to 14: pages and revisions (FormTest has their sizes and steps, MergeTest merging). */
 final class RevisionTest {
-    private static final int[] NO_PAGES = {-1, 6, Integer.MIN_VALUE, Integer.MAX_VALUE};
+    private static final int[] NO_REVISIONS = {-1, -24, 25, 256, 257, 65536, 65537, Integer.MIN_VALUE, Integer.MAX_VALUE};
     private static final Check check = new Check();
 
     public static void main(String[] args) {
         aNewObjectHasNone();
-        everyIsKeptInBounds();
-        saveMakesRevisions();
-        saveRefuses();
-        revertMakesRevisions();
-        revertRefuses();
-        removeMakesOneGone();
-        loadFillsTheDraft();
-        loadRefuses();
-        sizesOfSnapshots();
-        sizesOfDeltas();
-        sizeRefuses();
-        formsAfterOneGone();
-        twentyFourAreMadeInAll();
+        aNewObjectIsUpWithoutACut();
+        sixPages();
+        saveOverTheLatest();
+        saveOverNoRevision();
+        saveNeedsAPage();
+        saveNeedsABase();
+        theDraftStays();
+        twentyFourInAll();
+        revertsAndRemovalsCount();
+        twentyFourOfOnePage();
+        refusedAndCutOffOnesAreNotMade();
         refusalsComeInOrder();
-        callsAreRefusedWhileDown();
+        revertMakesRevisions();
+        revertNeedsARevision();
+        revertOfOneGone();
+        removeMakesOneGone();
+        removeNeedsAPageThatIsThere();
+        loadFillsTheDraft();
+        loadOfOneGone();
+        loadNeedsARevision();
+        latestCounts();
+        thereTellsTheLatest();
+        sizeNeedsARevision();
         check.end();
     }
 
-    private static void aNewObjectHasNone() {
+    private static SharedPages withSixPages() {
         SharedPages x = new SharedPages(3);
-        for (int page = 0; page < 6; page++) {
-            check.equal("latest of a new one", x.latest(page), 0);
-            check.equal("there of a new one", x.there(page), false);
-            check.equal("size of a new one", x.size(page, 1), -1);
-        }
-        check.equal("writes of a new one", x.writes(), 0);
-        check.equal("a new one is up", x.recover(1), -1);
-        check.equal("no cut is set", x.save(Desk.A, 0), 1);
-    }
-
-    private static void everyIsKeptInBounds() {
-        stepsAre(Integer.MIN_VALUE, "000000000000");
-        stepsAre(-1, "000000000000");
-        stepsAre(0, "000000000000");
-        stepsAre(1, "000000000000");
-        stepsAre(2, "010101010101");
-        stepsAre(3, "012012012012");
-        stepsAre(4, "012301230123");
-        stepsAre(5, "012340123401");
-        stepsAre(6, "012340123401");
-        stepsAre(Integer.MAX_VALUE, "012340123401");
-    }
-
-    private static void stepsAre(int every, String due) {
-        SharedPages x = new SharedPages(every);
-        StringBuilder steps = new StringBuilder();
-        for (int n = 1; n <= due.length(); n++) {
-            Desk.save(x, Desk.B, "a".repeat(n));
-            steps.append(x.load(Desk.B, n));
-        }
-        check.equal("steps with every " + every, steps.toString(), due);
-    }
-
-    private static void saveMakesRevisions() {
-        SharedPages x = new SharedPages(3);
-        check.equal("first", Desk.save(x, Desk.A, "one"), 1);
-        check.equal("the draft stays", Desk.draft(x), "one");
-        check.equal("second", Desk.save(x, Desk.A, 1, "two\nlines"), 2);
-        check.equal("the same again", x.save(Desk.A, 2), 3);
-        check.equal("another page", x.save(Desk.F, 0), 1);
-        check.equal("latest of A", x.latest(Desk.A), 3);
-        check.equal("latest of F", x.latest(Desk.F), 1);
-        check.equal("latest of B", x.latest(Desk.B), 0);
-        x.type('!');
-        check.equal("text 1", Desk.text(x, Desk.A, 1), "one");
-        check.equal("text 2", Desk.text(x, Desk.A, 2), "two\nlines");
-        check.equal("text 3", Desk.text(x, Desk.A, 3), "two\nlines");
-        check.equal("there", x.there(Desk.A), true);
-        check.equal("not there", x.there(Desk.E), false);
-        check.equal("an empty text", Desk.save(x, Desk.E, ""), 1);
-        check.equal("there with an empty text", x.there(Desk.E), true);
-    }
-
-    private static void saveRefuses() {
-        SharedPages x = new SharedPages(3);
-        Desk.save(x, Desk.A, "one");
-        for (int page : NO_PAGES) {
-            check.equal("save(" + page + ", 0)", x.save(page, 0), -1);
-            check.equal("latest(" + page + ")", x.latest(page), -1);
-            check.equal("there(" + page + ")", x.there(page), false);
-        }
-        for (int base : new int[] {-1, 2, Integer.MIN_VALUE, Integer.MAX_VALUE}) {
-            check.equal("save(A, " + base + ")", x.save(Desk.A, base), -1);
-        }
-        check.equal("base of another page", x.save(Desk.B, 1), -1);
-        check.equal("refused saves change nothing", x.latest(Desk.A), 1);
-        check.equal("refused saves write nothing", x.writes(), 4);
-    }
-
-    private static void revertMakesRevisions() {
-        SharedPages x = new SharedPages(5);
-        Desk.save(x, Desk.A, "one");
-        Desk.save(x, Desk.A, "two");
-        Desk.write(x, "draft");
-        check.equal("revert to 1", x.revert(Desk.A, 1), 3);
-        check.equal("the draft stays", Desk.draft(x), "draft");
-        check.equal("its text", Desk.text(x, Desk.A, 3), "one");
-        check.equal("its size", x.size(Desk.A, 3), 3 + 3 + 1);
-        check.equal("revert to the latest", x.revert(Desk.A, 3), 4);
-        check.equal("no difference", x.size(Desk.A, 4), 0);
-        x.remove(Desk.A);
-        check.equal("revert one gone", x.revert(Desk.A, 2), 6);
-        check.equal("there again", x.there(Desk.A), true);
-        check.equal("its text again", Desk.text(x, Desk.A, 6), "two");
-        Desk.save(x, Desk.A, "two!");
-        check.equal("what was reverted to stays", Desk.text(x, Desk.A, 6), "two");
-    }
-
-    private static void revertRefuses() {
-        SharedPages x = new SharedPages(3);
-        Desk.save(x, Desk.A, "one");
-        x.remove(Desk.A);
-        int writes = x.writes();
-        check.equal("revert to 0", x.revert(Desk.A, 0), -1);
-        check.equal("revert to one gone", x.revert(Desk.A, 2), -1);
-        check.equal("revert to none", x.revert(Desk.A, 3), -1);
-        check.equal("revert to -1", x.revert(Desk.A, -1), -1);
-        check.equal("revert to the greatest", x.revert(Desk.A, Integer.MAX_VALUE), -1);
-        check.equal("revert to another page's", x.revert(Desk.B, 1), -1);
-        for (int page : NO_PAGES) {
-            check.equal("revert(" + page + ", 1)", x.revert(page, 1), -1);
-        }
-        check.equal("refused reverts change nothing", x.latest(Desk.A), 2);
-        check.equal("refused reverts write nothing", x.writes(), writes);
-    }
-
-    private static void removeMakesOneGone() {
-        SharedPages x = new SharedPages(3);
-        check.equal("remove without revisions", x.remove(Desk.A), -1);
-        Desk.save(x, Desk.A, "one");
-        Desk.save(x, Desk.B, "one");
-        check.equal("remove", x.remove(Desk.A), 2);
-        check.equal("gone", x.there(Desk.A), false);
-        check.equal("another one stays", x.there(Desk.B), true);
-        check.equal("latest of one gone", x.latest(Desk.A), 2);
-        check.equal("size of one gone", x.size(Desk.A, 2), 0);
-        check.equal("the draft stays", Desk.draft(x), "one");
-        check.equal("remove again", x.remove(Desk.A), -1);
-        check.equal("latest is as before", x.latest(Desk.A), 2);
-        check.equal("save over one gone", x.save(Desk.A, 2), 3);
-        check.equal("there again", x.there(Desk.A), true);
-        check.equal("remove once more", x.remove(Desk.A), 4);
-        for (int page : NO_PAGES) {
-            check.equal("remove(" + page + ")", x.remove(page), -1);
-        }
-    }
-
-    private static void loadFillsTheDraft() {
-        SharedPages x = new SharedPages(5);
-        Desk.save(x, Desk.A, "long text\nof two lines");
-        Desk.save(x, Desk.A, "b");
-        x.remove(Desk.A);
-        check.equal("load 1", x.load(Desk.A, 1), 0);
-        check.equal("its text", Desk.draft(x), "long text\nof two lines");
-        check.equal("load 2", x.load(Desk.A, 2), 1);
-        check.equal("its shorter text", Desk.draft(x), "b");
-        check.equal("load 3", x.load(Desk.A, 3), 0);
-        check.equal("the text of one gone", x.length(), 0);
-        x.load(Desk.A, 2);
-        x.type('\n');
-        x.put(1, 'c');
-        check.equal("the draft goes on from it", Desk.draft(x), "b\nc");
-        check.equal("the revision does not", Desk.text(x, Desk.A, 2), "b");
-    }
-
-    private static void loadRefuses() {
-        SharedPages x = new SharedPages(5);
-        Desk.save(x, Desk.A, "a");
-        Desk.write(x, "draft");
-        check.equal("load 0", x.load(Desk.A, 0), -1);
-        check.equal("load 2", x.load(Desk.A, 2), -1);
-        check.equal("load -1", x.load(Desk.A, -1), -1);
-        check.equal("load the greatest", x.load(Desk.A, Integer.MAX_VALUE), -1);
-        check.equal("load of another page", x.load(Desk.B, 1), -1);
-        for (int page : NO_PAGES) {
-            check.equal("load(" + page + ", 1)", x.load(page, 1), -1);
-        }
-        check.equal("refused loads change nothing", Desk.draft(x), "draft");
-    }
-
-    private static void sizesOfSnapshots() {
-        SharedPages x = new SharedPages(1);
-        String[] texts = {"", "a", "a\n", "0123456789012345678901234567890123456789"};
-        for (int k = 0; k < texts.length; k++) {
-            Desk.save(x, Desk.D, texts[k]);
-            check.equal("size of snapshot " + k, x.size(Desk.D, k + 1), texts[k].length());
-        }
-    }
-
-    private static void sizesOfDeltas() {
-        delta("a", "a", 0);
-        delta("a", "b", 3 + 2);
-        delta("", "", 0);
-        delta("", "ab", 3 + 3);
-        delta("ab", "", 3 + 1);
-        delta("a\nb\nc", "a\nc", 3);
-        delta("a\nb\nc", "b\nc", 3);
-        delta("a\nb\nc", "a\nb", 3);
-        delta("a\nc", "a\nbb\nc", 3 + 3);
-        delta("a\nb\nc", "x\nb\nyyy", 3 + 2 + 3 + 4);
-        delta("a\nb\nc", "a\nxx\nyy\nc", 3 + 3 + 3);
-        delta("a\nb", "c\na\nb\nd", 3 + 2 + 3 + 2);
-        delta("a\n\nb", "a\nb", 3);
-        delta("a\nb", "a\n\nb", 3 + 1);
-        delta("a\nb", "b\na", 3 + 3 + 2);
-        delta("a\nb\nc\nd", "d\nc\nb\na", 3 + 3 + 2 + 2 + 2);
-        // The longest list of common lines is taken, not the first lines that are equal.
-        delta("x\na\nb\nc", "a\nb\nc\nx", 3 + 3 + 2);
-        delta("a\nb\nc\nx", "x\na\nb\nc", 3 + 2 + 3);
-        // Of two longest lists the one is taken that passes lines of the older text first.
-        delta("aaaa\nb", "b\naaaa", 3 + 3 + 5);
-        delta("b\naaaa", "aaaa\nb", 3 + 3 + 2);
-        delta("a\nb\na\nb", "b\na\nb\na", 3 + 3 + 2);
-        delta("0\n1\n2\n3\n4\n5\n6\n7\n8\n9", "x\n1\nx\n3\nx\n5\nx\n7\nx\n9", 5 * 5);
-        delta("\n".repeat(40), "\n".repeat(39), 3);
-        delta("\n".repeat(39), "\n".repeat(40), 3 + 1);
-    }
-
-    private static void delta(String from, String to, int due) {
-        SharedPages x = new SharedPages(5);
-        Desk.save(x, Desk.C, from);
-        Desk.save(x, Desk.C, to);
-        check.equal("size from \"" + from + "\" to \"" + to + "\"", x.size(Desk.C, 2), due);
-        check.equal("steps of the delta", x.load(Desk.C, 2), 1);
-        check.equal("text of the delta", Desk.draft(x), to);
-        check.equal("text before the delta", Desk.text(x, Desk.C, 1), from);
-    }
-
-    private static void sizeRefuses() {
-        SharedPages x = new SharedPages(5);
-        Desk.save(x, Desk.A, "abc");
-        check.equal("size 1", x.size(Desk.A, 1), 3);
-        check.equal("size 0", x.size(Desk.A, 0), -1);
-        check.equal("size 2", x.size(Desk.A, 2), -1);
-        check.equal("size -1", x.size(Desk.A, -1), -1);
-        check.equal("size the greatest", x.size(Desk.A, Integer.MAX_VALUE), -1);
-        check.equal("size of another page", x.size(Desk.B, 1), -1);
-        for (int page : NO_PAGES) {
-            check.equal("size(" + page + ", 1)", x.size(page, 1), -1);
-        }
-    }
-
-    private static void formsAfterOneGone() {
-        SharedPages x = new SharedPages(5);
-        Desk.save(x, Desk.A, "abc");
-        Desk.save(x, Desk.A, "abcd");
-        x.remove(Desk.A);
-        Desk.save(x, Desk.A, "abc");
-        Desk.save(x, Desk.A, "abc");
-        Desk.save(x, Desk.A, "abc");
-        check.equal("a snapshot behind one gone", x.load(Desk.A, 4), 0);
-        check.equal("its size", x.size(Desk.A, 4), 3);
-        check.equal("a delta behind that", x.load(Desk.A, 5), 1);
-        check.equal("its size", x.size(Desk.A, 5), 0);
-        check.equal("a snapshot again", x.load(Desk.A, 6), 0);
-        check.equal("its size", x.size(Desk.A, 6), 3);
-    }
-
-    private static SharedPages withTwentyFour() {
-        SharedPages x = new SharedPages(5);
-        for (int n = 1; n <= 24; n++) {
-            Desk.save(x, n % 2 == 0 ? Desk.A : Desk.B, "t");
+        for (int page = 0; page < Desk.PAGES; page++) {
+            Desk.save(x, page, "[[A]][[F]]");
         }
         return x;
     }
 
-    private static void twentyFourAreMadeInAll() {
-        SharedPages x = withTwentyFour();
-        int writes = x.writes();
-        check.equal("twelve of A", x.latest(Desk.A), 12);
-        check.equal("twelve of B", x.latest(Desk.B), 12);
-        check.equal("no save", x.save(Desk.A, 12), -4);
-        check.equal("no save elsewhere", x.save(Desk.C, 0), -4);
-        check.equal("no revert", x.revert(Desk.A, 1), -4);
-        check.equal("no remove", x.remove(Desk.A), -4);
-        check.equal("nothing is changed", x.latest(Desk.A), 12);
-        check.equal("nothing is written", x.writes(), writes);
-        SharedPages y = new SharedPages(1);
-        for (int n = 1; n <= 24; n++) {
-            check.equal("revision of one page", y.save(Desk.F, n - 1), n);
+    private static void aNewObjectHasNone() {
+        check.about("1 a new object: No revisions");
+        SharedPages x = new SharedPages(3);
+        for (int page = 0; page < Desk.PAGES; page++) {
+            check.equal("latest", x.latest(page), 0);
+            check.equal("there", x.there(page), false);
+            check.equal("size of 1", x.size(page, 1), -1);
+            check.equal("load of 1", x.load(page, 1), -1);
+            check.equal("links", x.links(page), 0);
+            check.equal("backlinks", x.backlinks(page), 0);
+            check.equal("show", x.show(page), -1);
         }
-        check.equal("the 25th", y.save(Desk.F, 24), -4);
-        check.equal("the 24th", y.load(Desk.F, 24), 0);
+        check.equal("writes", x.writes(), 0);
+        check.equal("shown(0)", x.shown(0), -1);
+    }
+
+    private static void aNewObjectIsUpWithoutACut() {
+        check.about("1 a new object: up, no cut set");
+        SharedPages x = new SharedPages(3);
+        check.equal("recover", x.recover(1), -1);
+        check.equal("a large work", Desk.save(x, Desk.A, Scenes.FORTY), 1);
+        check.equal("a small work of a new object", new SharedPages(3).save(Desk.F, 0), 1);
+        check.equal("cut", new SharedPages(3).cut(0), true);
+    }
+
+    private static void sixPages() {
+        check.about("Terms: PAGES are 0 .. 5");
+        SharedPages x = new SharedPages(3);
+        for (int page = 0; page < Desk.PAGES; page++) {
+            check.equal("first of page " + page, Desk.save(x, page, "page " + page), 1);
+        }
+        for (int page = 0; page < Desk.PAGES; page++) {
+            check.equal("text of page " + page, Desk.text(x, page, 1), "page " + page);
+            check.equal("latest of page " + page, x.latest(page), 1);
+            check.equal("page " + page + " there", x.there(page), true);
+            check.equal("size of page " + page, x.size(page, 1), 6);
+            check.equal("show of page " + page, x.show(page), 6 + 7);
+            check.equal("revert of page " + page, x.revert(page, 1), 2);
+            check.equal("remove of page " + page, x.remove(page), 3);
+            check.equal("page " + page + " gone", x.there(page), false);
+        }
+    }
+
+    private static void saveOverTheLatest() {
+        check.about("8 save: with the draft, if base is the number of its latest revision");
+        SharedPages x = new SharedPages(3);
+        Desk.save(x, Desk.A, "one");
+        check.equal("over 1", Desk.save(x, Desk.A, 1, "two\nlines"), 2);
+        check.equal("over 2", Desk.save(x, Desk.A, 2, "three"), 3);
+        check.equal("the same over 3", x.save(Desk.A, 3), 4);
+        x.type('!');
+        check.equal("text 1", Desk.text(x, Desk.A, 1), "one");
+        check.equal("text 2", Desk.text(x, Desk.A, 2), "two\nlines");
+        check.equal("text 3", Desk.text(x, Desk.A, 3), "three");
+        check.equal("text 4", Desk.text(x, Desk.A, 4), "three");
+        check.equal("the empty text", Desk.save(x, Desk.A, 4, ""), 5);
+        check.equal("its text", Desk.text(x, Desk.A, 5), "");
+        check.equal("forty characters", Desk.save(x, Desk.A, 5, Scenes.FORTY), 6);
+        check.equal("their text", Desk.text(x, Desk.A, 6), Scenes.FORTY);
+        x.remove(Desk.A);
+        check.equal("over one gone", Desk.save(x, Desk.A, 7, "eight"), 8);
+        check.equal("text 8", Desk.text(x, Desk.A, 8), "eight");
+    }
+
+    private static void saveOverNoRevision() {
+        check.about("8 save: base is the number of its latest revision (0 if it has none)");
+        for (int page = 0; page < Desk.PAGES; page++) {
+            SharedPages x = new SharedPages(3);
+            Desk.write(x, "text");
+            check.equal("over 1", x.save(page, 1), -1);
+            check.equal("over 0", x.save(page, 0), 1);
+            check.equal("its text", Desk.text(x, page, 1), "text");
+        }
+    }
+
+    private static void saveNeedsAPage() {
+        check.about("8 save: -1 (refused) if there is no such page");
+        SharedPages x = new SharedPages(3);
+        for (int page : Desk.NO_PAGES) {
+            check.equal("save(" + page + ", 0)", x.save(page, 0), -1);
+        }
+        check.equal("writes", x.writes(), 0);
+        SharedPages y = withSixPages();
+        for (int page : Desk.NO_PAGES) {
+            check.equal("save(" + page + ", 1)", y.save(page, 1), -1);
+        }
+    }
+
+    private static void saveNeedsABase() {
+        check.about("8 save: -1 (refused) if there is no such base");
+        SharedPages x = new SharedPages(3);
+        Desk.save(x, Desk.A, "one");
+        Desk.save(x, Desk.A, "one");
+        Desk.save(x, Desk.B, "one");
+        for (int base : NO_REVISIONS) {
+            check.equal("save(A, " + base + ")", x.save(Desk.A, base), -1);
+        }
+        check.equal("save(A, 3)", x.save(Desk.A, 3), -1);
+        check.equal("save(B, 2)", x.save(Desk.B, 2), -1);
+        check.equal("save(C, 1)", x.save(Desk.C, 1), -1);
+        check.equal("latest of A", x.latest(Desk.A), 2);
+    }
+
+    private static void theDraftStays() {
+        check.about("8 save: (The draft stays.)");
+        SharedPages x = new SharedPages(3);
+        Desk.save(x, Desk.A, "a\nb");
+        check.equal("draft after a save", Desk.draft(x), "a\nb");
+        Desk.save(x, Desk.A, "a\nb\nc");
+        Desk.save(x, Desk.A, 1, "z\na\nb");
+        check.equal("draft after a merge", Desk.draft(x), "z\na\nb");
+        x.cut(0);
+        check.equal("cut off", x.save(Desk.A, 3), -5);
+        check.equal("draft after a cut", Desk.draft(x), "z\na\nb");
+        x.recover(1);
+        check.equal("draft after recovering", Desk.draft(x), "z\na\nb");
+        check.equal("conflict", Desk.save(x, Desk.A, 1, "q"), -2);
+        check.equal("draft after a conflict", Desk.draft(x), "q");
+        x.revert(Desk.A, 1);
+        check.equal("draft after a revert", Desk.draft(x), "q");
+        x.remove(Desk.A);
+        check.equal("draft after a removal", Desk.draft(x), "q");
+    }
+
+    private static void twentyFourInAll() {
+        check.about("Terms: at most 24 are made in all; 8 save: -4 (refused) if 24 revisions were made");
+        SharedPages x = new SharedPages(5);
+        for (int n = 1; n <= 4; n++) {
+            for (int page = 0; page < Desk.PAGES; page++) {
+                check.equal("save", x.save(page, n - 1), n);
+            }
+        }
+        for (int page = 0; page < Desk.PAGES; page++) {
+            check.equal("the 25th by save", x.save(page, 4), -4);
+            check.equal("the 25th by revert", x.revert(page, 1), -4);
+            check.equal("the 25th by remove", x.remove(page), -4);
+            check.equal("latest", x.latest(page), 4);
+            check.equal("there", x.there(page), true);
+        }
+        check.equal("writes", x.writes(), 24 * 2);
+    }
+
+    private static void revertsAndRemovalsCount() {
+        check.about("Terms: at most 24 are made in all, by save, revert and remove");
+        SharedPages x = new SharedPages(5);
+        Desk.saveAgain(x, Desk.A, 21);
+        x.revert(Desk.A, 1);
+        check.equal("the 23rd, gone", x.remove(Desk.A), 23);
+        check.equal("the 24th", x.save(Desk.B, 0), 1);
+        check.equal("the 25th", x.save(Desk.B, 1), -4);
+        check.equal("the 25th, gone", x.remove(Desk.B), -4);
+        check.equal("the 25th by revert", x.revert(Desk.A, 1), -4);
+    }
+
+    private static void twentyFourOfOnePage() {
+        check.about("Terms: REVISIONS of a page are numbered 1, 2, ..; at most 24 are made in all");
+        SharedPages x = new SharedPages(1);
+        for (int n = 1; n <= 24; n++) {
+            check.equal("revision of one page", x.save(Desk.F, n - 1), n);
+        }
+        check.equal("the 25th", x.save(Desk.F, 24), -4);
+        check.equal("the 25th over 0", x.save(Desk.F, 0), -4);
+        check.equal("over the 25th", x.save(Desk.F, 25), -1);
+        check.equal("latest", x.latest(Desk.F), 24);
+        check.equal("load of the 24th", x.load(Desk.F, 24), 0);
+        check.equal("load of the 25th", x.load(Desk.F, 25), -1);
+        check.equal("size of the 24th", x.size(Desk.F, 24), 0);
+        check.equal("size of the 25th", x.size(Desk.F, 25), -1);
+        check.equal("revert of the 25th", x.revert(Desk.F, 25), -1);
+    }
+
+    private static void refusedAndCutOffOnesAreNotMade() {
+        check.about("8 save: -4 if 24 revisions were made (one that was refused or that recovering took back was not)");
+        SharedPages x = new SharedPages(1);
+        Desk.saveAgain(x, Desk.A, 23);
+        check.equal("a refused one", x.save(Desk.A, 24), -1);
+        x.cut(0);
+        check.equal("one cut off", x.save(Desk.B, 0), -5);
+        x.recover(1);
+        check.equal("taken back", x.latest(Desk.B), 0);
+        x.cut(1);
+        check.equal("one cut off later", x.save(Desk.B, 0), -5);
+        x.recover(1);
+        check.equal("made", x.latest(Desk.B), 1);
+        check.equal("no 25th", x.save(Desk.B, 1), -4);
+        check.equal("no 25th elsewhere", x.save(Desk.C, 0), -4);
     }
 
     private static void refusalsComeInOrder() {
-        SharedPages x = withTwentyFour();
-        check.equal("no such page before -4", x.save(6, 0), -1);
-        check.equal("no such base before -4", x.save(Desk.A, 13), -1);
-        check.equal("no such revision before -4", x.revert(Desk.A, 13), -1);
-        check.equal("not there before -4", x.remove(Desk.C), -1);
-        Desk.write(x, "u");
-        check.equal("-4 before a conflict", x.save(Desk.A, 0), -4);
+        check.about("8 save: -1; else -4; else -2; else -3; -5");
+        SharedPages x = Scenes.full();
+        check.equal("no page and 24 made", x.save(6, 0), -1);
+        check.equal("no base and 24 made", x.save(Desk.A, 3), -1);
+        check.equal("24 made and a conflict", x.save(Desk.A, 1), -4);
+        Desk.write(x, "x".repeat(38) + "\na");
+        check.equal("24 made and too much", x.save(Desk.A, 1), -4);
+        check.equal("24 made and a cut set", x.save(Desk.A, 2), -4);
+        SharedPages y = Scenes.busy();
+        y.cut(0);
+        Desk.write(y, "x".repeat(37) + "\nz");
+        check.equal("a conflict and a cut set", y.save(Desk.A, 1), -2);
+        Desk.write(y, "x".repeat(31) + "\na\n[[C]]");
+        check.equal("too much and a cut set", y.save(Desk.A, 2), -3);
+        check.equal("a cut set", y.save(Desk.A, 3), -5);
+        check.equal("down and a conflict", y.save(Desk.A, 1), -1);
     }
 
-    private static void callsAreRefusedWhileDown() {
+    private static void revertMakesRevisions() {
+        check.about("9 revert: Makes a revision of the page with the text of one of its revisions (not 0)");
+        SharedPages x = new SharedPages(5);
+        Desk.save(x, Desk.A, "one");
+        Desk.save(x, Desk.A, "two");
+        Desk.save(x, Desk.B, "other");
+        Desk.write(x, "draft");
+        check.equal("revert to the first", x.revert(Desk.A, 1), 3);
+        check.equal("its text", Desk.text(x, Desk.A, 3), "one");
+        check.equal("revert to the latest", x.revert(Desk.A, 3), 4);
+        check.equal("its text", Desk.text(x, Desk.A, 4), "one");
+        x.remove(Desk.A);
+        check.equal("revert behind one gone", x.revert(Desk.A, 2), 6);
+        check.equal("there again", x.there(Desk.A), true);
+        Desk.save(x, Desk.A, "two!");
+        check.equal("its text", Desk.text(x, Desk.A, 6), "two");
+        check.equal("another page", x.latest(Desk.B), 1);
+        Desk.save(x, Desk.C, "");
+        check.equal("revert to an empty text", x.revert(Desk.C, 1), 2);
+        x.cut(0);
+        check.equal("revert cut off", x.revert(Desk.A, 1), -5);
+    }
+
+    private static void revertNeedsARevision() {
+        check.about("9 revert: -1 (refused) if there is no such page or revision (not 0)");
+        SharedPages x = new SharedPages(3);
+        Desk.save(x, Desk.A, "one");
+        Desk.save(x, Desk.A, "two");
+        Desk.save(x, Desk.B, "one");
+        for (int revision : NO_REVISIONS) {
+            check.equal("revert(A, " + revision + ")", x.revert(Desk.A, revision), -1);
+        }
+        check.equal("revert(A, 0)", x.revert(Desk.A, 0), -1);
+        check.equal("revert(A, 3)", x.revert(Desk.A, 3), -1);
+        check.equal("revert(B, 2)", x.revert(Desk.B, 2), -1);
+        check.equal("revert(C, 0)", x.revert(Desk.C, 0), -1);
+        check.equal("revert(C, 1)", x.revert(Desk.C, 1), -1);
+        check.equal("latest", x.latest(Desk.A), 2);
+        SharedPages y = withSixPages();
+        for (int page : Desk.NO_PAGES) {
+            check.equal("revert(" + page + ", 1)", y.revert(page, 1), -1);
+        }
+    }
+
+    private static void revertOfOneGone() {
+        check.about("9 revert: -1 (refused) also if that one is gone");
+        SharedPages x = new SharedPages(3);
+        Desk.save(x, Desk.A, "one");
+        x.remove(Desk.A);
+        check.equal("the latest, gone", x.revert(Desk.A, 2), -1);
+        Desk.save(x, Desk.A, "three");
+        check.equal("an older one, gone", x.revert(Desk.A, 2), -1);
+        check.equal("latest", x.latest(Desk.A), 3);
+    }
+
+    private static void removeMakesOneGone() {
+        check.about("10 remove: Makes a revision of the page that is gone");
+        SharedPages x = new SharedPages(3);
+        Desk.save(x, Desk.A, "one");
+        Desk.save(x, Desk.B, "one");
+        check.equal("remove", x.remove(Desk.A), 2);
+        check.equal("gone", x.there(Desk.A), false);
+        check.equal("another one", x.there(Desk.B), true);
+        check.equal("latest", x.latest(Desk.A), 2);
+        check.equal("the older one's text", Desk.text(x, Desk.A, 1), "one");
+        x.cut(0);
+        check.equal("remove cut off", x.remove(Desk.B), -5);
+    }
+
+    private static void removeNeedsAPageThatIsThere() {
+        check.about("10 remove: -1 (refused) also if the page is not there");
+        SharedPages x = new SharedPages(3);
+        check.equal("without revisions", x.remove(Desk.A), -1);
+        Desk.save(x, Desk.A, "");
+        check.equal("with an empty text", x.remove(Desk.A), 2);
+        check.equal("gone already", x.remove(Desk.A), -1);
+        Desk.save(x, Desk.A, "back");
+        check.equal("there again", x.remove(Desk.A), 4);
+        SharedPages y = withSixPages();
+        for (int page : Desk.NO_PAGES) {
+            check.equal("remove(" + page + ")", y.remove(page), -1);
+        }
+    }
+
+    private static void loadFillsTheDraft() {
+        check.about("11 load: The draft becomes the text of a revision of the page (not 0). Answers its steps");
+        SharedPages x = new SharedPages(5);
+        Desk.save(x, Desk.A, Scenes.FORTY);
+        Desk.save(x, Desk.A, "b");
+        Desk.save(x, Desk.A, "");
+        check.equal("load 1", x.load(Desk.A, 1), 0);
+        check.equal("forty characters", Desk.draft(x), Scenes.FORTY);
+        check.equal("no room behind them", x.type('x'), false);
+        check.equal("load 2", x.load(Desk.A, 2), 1);
+        check.equal("a shorter text", Desk.draft(x), "b");
+        x.type('\n');
+        x.put(1, 'c');
+        check.equal("the draft goes on from it", Desk.draft(x), "b\nc");
+        check.equal("the revision does not", Desk.text(x, Desk.A, 2), "b");
+        check.equal("load 3", x.load(Desk.A, 3), 2);
+        check.equal("an empty text", x.length(), 0);
+    }
+
+    private static void loadOfOneGone() {
+        check.about("11 load: (Of one that is gone: empty.)");
+        SharedPages x = new SharedPages(5);
+        Desk.save(x, Desk.A, "a");
+        x.remove(Desk.A);
+        Desk.save(x, Desk.A, "c\nd");
+        check.equal("load of one gone", x.load(Desk.A, 2), 0);
+        check.equal("length", x.length(), 0);
+        check.equal("one line", x.put(1, 'x'), false);
+        check.equal("the draft goes on from it", x.type('x'), true);
+        check.equal("load of it again", x.load(Desk.A, 2), 0);
+        check.equal("length again", x.length(), 0);
+    }
+
+    private static void loadNeedsARevision() {
+        check.about("11 load: -1 (refused) if there is no such page or revision (not 0)");
+        SharedPages x = new SharedPages(5);
+        Desk.save(x, Desk.A, "a");
+        Desk.save(x, Desk.A, "b");
+        Desk.save(x, Desk.B, "c");
+        Desk.write(x, "draft");
+        for (int revision : NO_REVISIONS) {
+            check.equal("load(A, " + revision + ")", x.load(Desk.A, revision), -1);
+        }
+        check.equal("load(A, 0)", x.load(Desk.A, 0), -1);
+        check.equal("load(A, 3)", x.load(Desk.A, 3), -1);
+        check.equal("load(B, 2)", x.load(Desk.B, 2), -1);
+        check.equal("load(C, 0)", x.load(Desk.C, 0), -1);
+        check.equal("load(C, 1)", x.load(Desk.C, 1), -1);
+        check.equal("draft", Desk.draft(x), "draft");
+        SharedPages y = withSixPages();
+        for (int page : Desk.NO_PAGES) {
+            check.equal("load(" + page + ", 1)", y.load(page, 1), -1);
+        }
+    }
+
+    private static void latestCounts() {
+        check.about("12 latest: The number of the page's latest revision, 0 without one; -1 if there is no such page");
+        SharedPages x = new SharedPages(5);
+        check.equal("without one", x.latest(Desk.A), 0);
+        x.save(Desk.A, 0);
+        check.equal("with one", x.latest(Desk.A), 1);
+        x.remove(Desk.A);
+        check.equal("with one gone", x.latest(Desk.A), 2);
+        x.revert(Desk.A, 1);
+        check.equal("with a revert", x.latest(Desk.A), 3);
+        check.equal("of another page", x.latest(Desk.B), 0);
+        SharedPages y = withSixPages();
+        for (int page : Desk.NO_PAGES) {
+            check.equal("latest(" + page + ")", y.latest(page), -1);
+        }
+    }
+
+    private static void thereTellsTheLatest() {
+        check.about("13 there; terms: A page IS THERE when its latest revision is not gone");
+        SharedPages x = new SharedPages(5);
+        check.equal("without revisions", x.there(Desk.E), false);
+        Desk.save(x, Desk.E, "");
+        check.equal("with an empty text", x.there(Desk.E), true);
+        x.remove(Desk.E);
+        check.equal("with one gone", x.there(Desk.E), false);
+        Desk.save(x, Desk.E, "e");
+        check.equal("with one gone before", x.there(Desk.E), true);
+        SharedPages y = withSixPages();
+        for (int page : Desk.NO_PAGES) {
+            check.equal("there(" + page + ")", y.there(page), false);
+        }
+    }
+
+    private static void sizeNeedsARevision() {
+        check.about("14 size: The size of a revision of the page; -1 if there is none");
         SharedPages x = new SharedPages(5);
         Desk.save(x, Desk.A, "abc");
-        x.cut(0);
-        Desk.write(x, "draft");
-        check.equal("cut off", x.save(Desk.B, 0), -5);
-        int writes = x.writes();
-        check.equal("save while down", x.save(Desk.A, 1), -1);
-        check.equal("revert while down", x.revert(Desk.A, 1), -1);
-        check.equal("remove while down", x.remove(Desk.A), -1);
-        check.equal("load while down", x.load(Desk.A, 1), -1);
-        check.equal("latest while down", x.latest(Desk.A), -1);
-        check.equal("there while down", x.there(Desk.A), false);
-        check.equal("size while down", x.size(Desk.A, 1), -1);
-        check.equal("the draft stays", Desk.draft(x), "draft");
-        check.equal("no writes while down", x.writes(), writes);
-        x.recover(1);
-        check.equal("latest after that", x.latest(Desk.A), 1);
-        check.equal("there after that", x.there(Desk.A), true);
+        Desk.save(x, Desk.A, "abc");
+        Desk.save(x, Desk.B, "c");
+        check.equal("size 1", x.size(Desk.A, 1), 3);
+        check.equal("size 2", x.size(Desk.A, 2), 0);
+        check.equal("size 3", x.size(Desk.A, 3), -1);
+        check.equal("size 0", x.size(Desk.A, 0), -1);
+        check.equal("size 2 of B", x.size(Desk.B, 2), -1);
+        check.equal("size 0 of C", x.size(Desk.C, 0), -1);
+        check.equal("size 1 of C", x.size(Desk.C, 1), -1);
+        for (int revision : NO_REVISIONS) {
+            check.equal("size(A, " + revision + ")", x.size(Desk.A, revision), -1);
+        }
+        SharedPages y = withSixPages();
+        for (int page : Desk.NO_PAGES) {
+            check.equal("size(" + page + ", 1)", y.size(page, 1), -1);
+        }
     }
 }
