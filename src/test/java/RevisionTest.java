@@ -208,6 +208,12 @@ final class RevisionTest {
         check.equal("size of the 24th", x.size(Desk.F, 24), 0);
         check.equal("size of the 25th", x.size(Desk.F, 25), -1);
         check.equal("revert of the 25th", x.revert(Desk.F, 25), -1);
+        SharedPages y = new SharedPages(5);
+        Desk.saveAgain(y, Desk.F, 23);
+        check.equal("the 24th, gone", y.remove(Desk.F), 24);
+        check.equal("not there", y.there(Desk.F), false);
+        check.equal("the 25th over one gone", y.save(Desk.F, 24), -4);
+        check.equal("remove of what is not there", y.remove(Desk.F), -1);
     }
 
     private static void refusedAndCutOffOnesAreNotMade() {
