@@ -26,7 +26,9 @@ final class FaceTest {
             check.equal("private field " + field.getName(), Modifier.isPrivate(field.getModifiers()), true);
         }
         for (Class<?> inside : SharedPages.class.getDeclaredClasses()) {
-            check.equal("static class " + inside.getName(), Modifier.isStatic(inside.getModifiers()), true);
+            int seen = inside.getModifiers();
+            check.equal("static class " + inside.getName(), Modifier.isStatic(seen), true);
+            check.equal("hidden class " + inside.getName(), Modifier.isPublic(seen) || Modifier.isProtected(seen), false);
         }
         check.end();
     }
